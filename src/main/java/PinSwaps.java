@@ -579,7 +579,7 @@ public final class PinSwaps {
             seen[wanted] = true;
             queue[0] = wanted;
             int queued = 1;
-            for (int next = 0; next < queued && !seen[left]; next++) {
+            for (int next = 0; next < size && next < queued && !seen[left]; next++) {
                 queued = queueFrom(queue[next], row, queued);
             }
             return seen[left];
