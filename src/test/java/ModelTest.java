@@ -10,8 +10,11 @@ import java.util.Random;
  * written straight from the document's words, without regard to speed.
  */
 public final class ModelTest {
-    private static final int RUNS = 2500;
-    private static final int CALLS = 300;
+    private static final int RUNS = 6000;
+    /** What an object answers later is free. */
+    private static final int CALLS = 512;
+    /** A run, and the nets of 80 pins. */
+    private static final int DEAREST_STEP = 81;
 
     private static int wrong;
 
@@ -35,6 +38,7 @@ public final class ModelTest {
         private final int spread;
         private final int groupBound;
         private final int bankBound;
+        private int calls;
 
         private interface Call {
             Object on(Face face);
@@ -58,18 +62,24 @@ public final class ModelTest {
             for (int i = 0; i < pinsWanted; i++) {
                 tellPin(real);
             }
-            for (int i = 0; i < CALLS - pinsWanted - groupBound; i++) {
+            while (calls + DEAREST_STEP <= CALLS) {
                 anyCall(real);
             }
         }
 
         private void both(Face real, String name, Call call) {
+            calls++;
             Object want = answer(call, model);
             Object got = answer(call, real);
             if (!want.equals(got)) {
                 wrong++;
                 System.out.println("run " + number + ": " + name + " answered " + got + ", the model " + want);
             }
+        }
+
+        private void bothNets(Face real) {
+            both(real, "nets", Face::nets);
+            calls += Math.min(79, model.pins.size());
         }
 
         private static Object answer(Call call, Face face) {
@@ -147,11 +157,11 @@ public final class ModelTest {
                 case 10 -> lookAtGates(real);
                 case 11, 12 -> {
                     both(real, "run()", Face::run);
-                    both(real, "nets", Face::nets);
+                    bothNets(real);
                 }
                 case 13 -> {
                     both(real, "undo()", Face::undo);
-                    both(real, "nets", Face::nets);
+                    bothNets(real);
                 }
                 case 14, 15 -> both(real, "dual(" + side + ", " + pin + ")", f -> f.dual(side, pin));
                 case 16 -> both(real, "note(" + k + ", " + what + ")", f -> f.note(k, what));
