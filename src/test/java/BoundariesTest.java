@@ -18,7 +18,7 @@ public final class BoundariesTest {
     };
 
     private static String sentence;
-    private static int sentences;
+    private static int tests;
     private static int wrong;
 
     private interface Call {
@@ -34,7 +34,7 @@ public final class BoundariesTest {
         gatesAreTold();
         undone();
         ways();
-        System.out.println(wrong == 0 ? sentences + " sentences hold" : wrong + " answers are not as due");
+        System.out.println(wrong == 0 ? tests + " tests of boundaries hold" : wrong + " answers are not as due");
         if (wrong != 0) {
             System.exit(1);
         }
@@ -143,7 +143,7 @@ public final class BoundariesTest {
 
     private static void sentence(String section, String words) {
         sentence = section + ", '" + words + "'";
-        sentences++;
+        tests++;
     }
 
     private static void due(Object want, String name, Call call) {
@@ -584,6 +584,9 @@ public final class BoundariesTest {
         aim(far, 9, 9, 9, 9);
         due(0, "run where all matchings are least", far::run);
         due("0 1 2 3", "nets", () -> netsOf(far, 4));
+        PinSwaps oneLess = row(0, 1);
+        aim(oneLess, 1, NONE);
+        due(2, "run where the least is one less", oneLess::run);
     }
 
     // Pins and nets.
